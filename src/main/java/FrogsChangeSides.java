@@ -67,8 +67,7 @@ public final class FrogsChangeSides {
         if (!page.tellsBrook()) {
             return STATE;
         }
-        rules.stones = page.leadingStones();
-        rules.signs = page.signs();
+        rules.set(page.leadingStones(), page.signs());
         readRow = page.row();
         goalRow = Rows.turned(readRow, rules.stones);
         frogs = rules.stones - Rows.freeStones(readRow, rules.stones);
@@ -208,8 +207,7 @@ public final class FrogsChangeSides {
         if (!hasBrook() || rules.stones >= MOST_STONES) {
             return STATE;
         }
-        otherRules.stones = rules.stones + 1;
-        otherRules.signs = rules.signs;
+        otherRules.set(rules.stones + 1, rules.signs);
         int best = NONE;
         int least = NONE;
         for (int place = 0; place <= rules.stones; place++) {
@@ -349,13 +347,21 @@ public final class FrogsChangeSides {
         }
         h = 31 * h + moves();
         if (hasBrook()) {
-            h = withSides(h);
+            for (int what = 0; what <= 2; what++) {
+                h = 31 * h + fewest(what);
+            }
+            h = 31 * h + ways();
+            h = 31 * h + wrong();
+            h = 31 * h + ends();
+            h = 31 * h + soon();
         }
         if (hasGame()) {
             h = 31 * h + wins(0);
             h = 31 * h + wins(1);
         }
-        h = withPage(h);
+        for (int i = 0; i < page.size && i < MOST_LETTERS; i++) {
+            h = 31 * h + page.codes[i];
+        }
         for (int what = 0; what <= 9; what++) {
             h = 31 * h + count(what);
         }
@@ -364,31 +370,12 @@ public final class FrogsChangeSides {
 
     // ---- helpers
 
-    private long withSides(long before) {
-        long h = before;
-        for (int what = 0; what <= 2; what++) {
-            h = 31 * h + fewest(what);
-        }
-        h = 31 * h + ways();
-        h = 31 * h + wrong();
-        h = 31 * h + ends();
-        return 31 * h + soon();
-    }
-
-    private long withPage(long before) {
-        long h = before;
-        for (int i = 0; i < page.size && i < MOST_LETTERS; i++) {
-            h = 31 * h + page.codes[i];
-        }
-        return h;
-    }
-
     private boolean hasBrook() {
         return rules.stones > 0;
     }
 
     private boolean hasGame() {
-        return hasBrook() && !rules.has(BACK) && !rules.has(RING);
+        return hasBrook() && !rules.back && !rules.ring;
     }
 
     private boolean isStone(int stone) {
@@ -652,6 +639,19 @@ public final class FrogsChangeSides {
     private static final class Rules {
         private int stones;
         private int signs;
+        private boolean any;
+        private boolean back;
+        private boolean ring;
+        private boolean two;
+
+        void set(int newStones, int newSigns) {
+            stones = newStones;
+            signs = newSigns;
+            any = has(ANY);
+            back = has(BACK);
+            ring = has(RING);
+            two = has(TWO);
+        }
 
         boolean has(int sign) {
             return (signs >> sign & 1) == 1;
@@ -678,7 +678,7 @@ public final class FrogsChangeSides {
             }
             int forth = kind == BROWN ? -sense : sense;
             int found = landing(row, stone, forth);
-            if (has(BACK)) {
+            if (back) {
                 found |= landing(row, stone, -forth);
             }
             return found;
@@ -687,7 +687,7 @@ public final class FrogsChangeSides {
         /** A frog can only land on the first free stone of its way. */
         private int landing(int row, int stone, int step) {
             int kind = Rows.at(row, stone);
-            int mostOver = kind == OLD ? 0 : has(TWO) ? 2 : 1;
+            int mostOver = kind == OLD ? 0 : two ? 2 : 1;
             int place = stone;
             for (int over = 0; over <= mostOver; over++) {
                 place = beside(place, step);
@@ -710,14 +710,14 @@ public final class FrogsChangeSides {
             if (place >= 0 && place < stones) {
                 return place;
             }
-            if (!has(RING)) {
+            if (!ring) {
                 return NONE;
             }
             return place < 0 ? stones - 1 : 0;
         }
 
         private boolean leapsOver(int kind, int other) {
-            return has(ANY) || (other != TOAD && (kind == BROWN) != (other == BROWN));
+            return any || (other != TOAD && (kind == BROWN) != (other == BROWN));
         }
     }
 

@@ -1,11 +1,10 @@
 import java.util.ArrayDeque;
 import java.util.ArrayList;
+import java.util.Collections;
 import java.util.HashMap;
-import java.util.HashSet;
 import java.util.List;
 import java.util.Map;
 import java.util.Random;
-import java.util.Set;
 
 /**
  * Long drawn runs of calls, and every brook of three or four stones, against Plain: the document's words written
@@ -555,6 +554,7 @@ public final class FrogsChangeSidesAgainstPlain {
             throw new IllegalStateException();
         }
 
+        /** The document tells no bound for so many; beyond an int it is taken to wrap, as an int does. */
         int ways() {
             if (row.isEmpty()) {
                 return STATE;
@@ -566,12 +566,12 @@ public final class FrogsChangeSidesAgainstPlain {
                 Map<String, Long> next = new HashMap<>();
                 for (Map.Entry<String, Long> e : layer.entrySet()) {
                     for (int[] m : movesOf(e.getKey())) {
-                        next.merge(moved(e.getKey(), m[0], m[1]), e.getValue(), Math::addExact);
+                        next.merge(moved(e.getKey(), m[0], m[1]), e.getValue(), Long::sum);
                     }
                 }
                 layer = next;
             }
-            return all == NONE ? 0 : Math.toIntExact(layer.get(turned(read)));
+            return all == NONE ? 0 : (int) (long) layer.get(turned(read));
         }
 
         int wrong() {
@@ -589,26 +589,26 @@ public final class FrogsChangeSidesAgainstPlain {
             return NONE;
         }
 
-        private Set<Integer> stuck(boolean count) {
-            Set<Integer> told = new HashSet<>();
-            int many = 0;
-            int least = NONE;
+        private List<Integer> stuckDepths() {
+            List<Integer> depths = new ArrayList<>();
             for (Map.Entry<String, Integer> e : from(row).entrySet()) {
                 if (movesOf(e.getKey()).isEmpty()) {
-                    many++;
-                    least = least == NONE ? e.getValue() : Math.min(least, e.getValue());
+                    depths.add(e.getValue());
                 }
             }
-            told.add(count ? many : least);
-            return told;
+            return depths;
         }
 
         int ends() {
-            return row.isEmpty() ? STATE : stuck(true).iterator().next();
+            return row.isEmpty() ? STATE : stuckDepths().size();
         }
 
         int soon() {
-            return row.isEmpty() ? STATE : stuck(false).iterator().next();
+            if (row.isEmpty()) {
+                return STATE;
+            }
+            List<Integer> depths = stuckDepths();
+            return depths.isEmpty() ? NONE : Collections.min(depths);
         }
 
         int comes() {
