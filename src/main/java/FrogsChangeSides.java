@@ -921,7 +921,7 @@ public final class FrogsChangeSides {
             Arrays.fill(known, 0);
         }
 
-        boolean hasIt(Rules rules, int row, int side, int depth) {
+        private boolean hasIt(Rules rules, int row, int side, int depth) {
             int place = table.meet(row);
             if (depth > DEEPEST_GAME || place < 0 || place >= MOST_ROWS) {
                 return false;
@@ -935,7 +935,7 @@ public final class FrogsChangeSides {
             return won;
         }
 
-        int winningMove(Rules rules, int row, int side, int depth) {
+        private int winningMove(Rules rules, int row, int side, int depth) {
             long left = rules.allMoves(row, ONWARD);
             int many = Long.bitCount(left);
             for (int i = 0; i < many; i++) {

@@ -7,9 +7,9 @@ import java.util.Map;
 import java.util.Random;
 
 /**
- * Long drawn runs of calls, and every brook of three or four stones, against Plain: the document's words written
- * down a second time with texts and maps, as slow as they like, so that both are wrong together only where the
- * words were misread.
+ * Long drawn runs of calls, every brook of three or four stones, and the brooks with the most rows, against Plain:
+ * the document's words written down a second time with texts and maps, as slow as they like, so that both are wrong
+ * together only where the words were misread.
  */
 public final class FrogsChangeSidesAgainstPlain {
     private static final int CALLS = 512;
@@ -22,6 +22,12 @@ public final class FrogsChangeSidesAgainstPlain {
         }
         everySmallBrook(3);
         everySmallBrook(4);
+        for (String text : new String[] {"g<<>>..;ab", "gg<<>..;abr", "gg<<>>.;abrt", "<<>gg..;r", "g>>>...;r", "<<<>g>.;r"}) {
+            oneBrook(new FrogsChangeSides(), new Plain(), text);
+        }
+        for (int seed = 0; seed < 20; seed++) {
+            manyGames(seed);
+        }
         System.out.println(wrong == 0 ? "both agree" : wrong + " answers differ");
         if (wrong != 0) {
             System.exit(1);
@@ -45,13 +51,19 @@ public final class FrogsChangeSidesAgainstPlain {
         for (int i = 0; i < stones; i++) {
             all *= 5;
         }
+        FrogsChangeSides x = new FrogsChangeSides();
+        Plain p = new Plain();
         for (int code = 1; code < all; code++) {
             StringBuilder row = new StringBuilder();
             for (int i = 0, left = code; i < stones; i++, left /= 5) {
                 row.append(kinds.charAt(left % 5));
             }
             for (int signs = 0; signs < 16; signs++) {
-                smallBrook(row + signsOf(signs));
+                oneBrook(x, p, row + signsOf(signs));
+            }
+            if (code % 2 == 0) {
+                x = new FrogsChangeSides();
+                p = new Plain();
             }
         }
     }
@@ -66,9 +78,7 @@ public final class FrogsChangeSidesAgainstPlain {
         return bits == 0 ? "" : ";" + s;
     }
 
-    private static void smallBrook(String text) {
-        FrogsChangeSides x = new FrogsChangeSides();
-        Plain p = new Plain();
+    private static void oneBrook(FrogsChangeSides x, Plain p, String text) {
         write(x, p, text);
         same(text, "brook()", x.brook(), p.brook());
         for (int what = 0; what < 2; what++) {
@@ -79,6 +89,24 @@ public final class FrogsChangeSidesAgainstPlain {
             }
         }
         same(text, "digest()", x.digest(), p.digest());
+    }
+
+    /** One object for many brooks, so that nothing found of one may be left for another. */
+    private static void manyGames(int seed) {
+        Random random = new Random(seed);
+        FrogsChangeSides x = new FrogsChangeSides();
+        Plain p = new Plain();
+        for (int i = 0; i < 100; i++) {
+            StringBuilder row = new StringBuilder(">");
+            for (int stone = 1; stone < 7; stone++) {
+                row.append(".>.<>.g".charAt(random.nextInt(7)));
+            }
+            String text = row + new String[] {"", ";a", ";t", ";at"}[random.nextInt(4)];
+            write(x, p, text);
+            same(text, "brook()", x.brook(), p.brook());
+            same(text, "wins(0)", x.wins(0), p.wins(0));
+            same(text, "wins(1)", x.wins(1), p.wins(1));
+        }
     }
 
     private static void write(FrogsChangeSides x, Plain p, String text) {

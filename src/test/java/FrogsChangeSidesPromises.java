@@ -645,6 +645,11 @@ public final class FrogsChangeSidesPromises {
         go(x, "01");
         due("from now", x.wins(0), 0);
         due("from now", x.wins(1), 0);
+        FrogsChangeSides y = of(">o.");
+        due("before another brook", y.wins(0), 0);
+        write(y, ">o.;a");
+        y.brook();
+        due("behind another brook", y.wins(0), 1);
         due("side -1", x.wins(-1), OUTSIDE);
         due("side 2", x.wins(2), OUTSIDE);
         due("BACK", of(">.<;b").wins(0), STATE);
