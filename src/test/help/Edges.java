@@ -1,5 +1,7 @@
 import java.util.ArrayList;
+import java.util.HashMap;
 import java.util.List;
+import java.util.Map;
 
 /**
  * What the tests of the edges share. Each check stands under a sentence of the document; a refused call is made on one
@@ -13,11 +15,17 @@ final class Edges {
     static final String RICH = "=>>.<< 12 ! 31 +>.<.x";
     /** No move more is kept, though some may be made. */
     static final String SIXTY = "=>..;b " + "01 10 ".repeat(30) + "! +>.";
+    /** Nothing may be moved, and it is not the goal. */
+    static final String STUCK = "=g.< ! 21 +>.<";
+    /** The longest row, round its end, with an image of one move less. */
+    static final String ROUND = "=<.....>;r 61 ! 06 +<.....>";
 
     private static String sentence = "";
     private static int sentences = 0;
     private static int checksOfSentence = 0;
     private static int wrong = 0;
+    private static final int WAYS_TO_LOOK = 9;
+    private static final Map<String, List<List<String>>> TWINS = new HashMap<>();
 
     private Edges() {
     }
@@ -78,7 +86,7 @@ final class Edges {
         return semi < 0 ? brook : brook.substring(0, semi);
     }
 
-    /** A new object led by steps: "=text" reads a brook, "+text" writes, "!" keeps an image, "01" moves from 0 to 1. */
+    /** A new object led by steps: "=text" reads a brook, "+text" writes, "!" keeps an image, "~" takes back, "01" moves. */
     static FrogsChangeSides led(String steps) {
         FrogsChangeSides x = new FrogsChangeSides();
         for (String step : steps.split(" ")) {
@@ -98,6 +106,10 @@ final class Edges {
             write(x, step.substring(1));
         } else if (sort == '!') {
             due("image", x.image(), x.count(2));
+        } else if (sort == '~') {
+            int before = x.count(2);
+            x.back();
+            due("kept behind back()", x.count(2), before - 1);
         } else {
             int before = x.count(2);
             due("move " + step, x.move(sort - '0', step.charAt(1) - '0'), before + 1);
@@ -106,9 +118,8 @@ final class Edges {
 
     /** The call must be refused, and nothing that is told later may differ from what one tells that was not asked. */
     static void refused(String steps, String what, long want, Call call) {
-        FrogsChangeSides asked = led(steps);
-        due(what + " behind [" + steps + "]", call.on(asked), want);
-        alike(what + " behind [" + steps + "]", asked, led(steps));
+        due(what + " behind [" + steps + "]", call.on(led(steps)), want);
+        unchanged(steps, what, call);
     }
 
     /** The call answers, but it is no more than a question: likewise. */
@@ -116,9 +127,33 @@ final class Edges {
         refused(steps, what, want, call);
     }
 
+    static void unchanged(String steps, String what, Call call) {
+        if (!TWINS.containsKey(steps)) {
+            TWINS.put(steps, tellings(steps, x -> 0));
+        }
+        List<List<String>> twin = TWINS.get(steps);
+        List<List<String>> got = tellings(steps, call);
+        for (int i = 0; i < twin.size(); i++) {
+            same(what + " behind [" + steps + "]", got.get(i), twin.get(i));
+        }
+    }
+
+    /** Each way to look begins on an object of its own, as what is asked first could hide what is changed later. */
+    private static List<List<String>> tellings(String steps, Call call) {
+        List<List<String>> all = new ArrayList<>();
+        for (int way = 0; way < WAYS_TO_LOOK; way++) {
+            FrogsChangeSides x = led(steps);
+            call.on(x);
+            all.add(told(x, way));
+        }
+        return all;
+    }
+
     static void alike(String what, FrogsChangeSides asked, FrogsChangeSides twin) {
-        List<String> got = told(asked);
-        List<String> want = told(twin);
+        same(what, told(asked, 0), told(twin, 0));
+    }
+
+    private static void same(String what, List<String> got, List<String> want) {
         for (int i = 0; i < want.size() && i < got.size(); i++) {
             if (!got.get(i).equals(want.get(i))) {
                 due("what is changed by " + what + ": " + got.get(i) + " for " + want.get(i), 1, 0);
@@ -128,19 +163,62 @@ final class Edges {
         due("how much is told behind " + what, got.size(), want.size());
     }
 
-    /** All that an object tells, then what it tells while it is led back, to its image, and to the brook on its page. */
-    static List<String> told(FrogsChangeSides x) {
+    private static List<String> told(FrogsChangeSides x, int way) {
         List<String> all = new ArrayList<>();
+        switch (way) {
+            case 0:
+                tellAll(x, all);
+                break;
+            case 1:
+                tellImage(x, all);
+                break;
+            case 2:
+                tellWayBack(x, all);
+                break;
+            case 3:
+                all.add("play(1, 0, 1) " + x.play(1, 0, 1));
+                all.add("play(60, 1, 1) " + x.play(60, 1, 1));
+                break;
+            case 4:
+                all.add("off(0) " + x.off(0));
+                all.add("off(1) " + x.off(1));
+                all.add("more(1) " + x.more(1));
+                break;
+            case 5:
+                tellPage(x, all);
+                break;
+            case 6:
+                tellQuestions(x, all);
+                break;
+            case 7:
+                tellFrogs(x, all);
+                break;
+            default:
+                all.add("digest " + x.digest());
+                break;
+        }
+        return all;
+    }
+
+    /** All that an object tells, then what it tells while it is led back, to its image, and to the brook on its page. */
+    private static void tellAll(FrogsChangeSides x, List<String> all) {
         tellRow(x, all);
         tellQuestions(x, all);
         tellWayBack(x, all);
+        tellImage(x, all);
+        tellPage(x, all);
+    }
+
+    private static void tellImage(FrogsChangeSides x, List<String> all) {
         all.add("restore " + x.restore());
         all.add("digest behind restore " + x.digest());
         tellWayBack(x, all);
+    }
+
+    private static void tellPage(FrogsChangeSides x, List<String> all) {
         all.add("brook " + x.brook());
         all.add("digest behind brook " + x.digest());
         all.add("restore behind brook " + x.restore());
-        return all;
     }
 
     private static void tellRow(FrogsChangeSides x, List<String> all) {
@@ -155,7 +233,11 @@ final class Edges {
                 all.add("may(" + from + ", " + to + ") " + x.may(from, to));
             }
         }
-        for (int frog = 0; frog < x.count(1); frog++) {
+        tellFrogs(x, all);
+    }
+
+    private static void tellFrogs(FrogsChangeSides x, List<String> all) {
+        for (int frog = 0; frog < 7; frog++) {
             for (int what = 0; what < 3; what++) {
                 all.add("about(" + frog + ", " + what + ") " + x.about(frog, what));
             }
@@ -163,9 +245,6 @@ final class Edges {
     }
 
     private static void tellQuestions(FrogsChangeSides x, List<String> all) {
-        all.add("fault " + x.fault());
-        all.add("comes " + x.comes());
-        all.add("moves " + x.moves());
         for (int what = 0; what < 3; what++) {
             all.add("fewest(" + what + ") " + x.fewest(what));
             all.add("play(60, 1, " + what + ") " + x.play(60, 1, what));
@@ -181,12 +260,17 @@ final class Edges {
         all.add("wrong " + x.wrong());
         all.add("ends " + x.ends());
         all.add("soon " + x.soon());
+        all.add("moves " + x.moves());
+        all.add("comes " + x.comes());
+        all.add("fault " + x.fault());
         all.add("digest " + x.digest());
     }
 
     private static void tellWayBack(FrogsChangeSides x, List<String> all) {
-        for (int kept = x.count(2); kept >= 0; kept--) {
-            all.add("back of " + kept + " " + x.back());
+        int from = 0;
+        for (int many = 0; many <= 60 && from >= 0; many++) {
+            from = x.back();
+            all.add("back " + from);
         }
         all.add("digest behind back " + x.digest());
     }

@@ -233,6 +233,11 @@ public final class FrogsChangeSidesEdgesOfCalls {
         Edges.due("never moved", x.about(0, 2), 0);
         Edges.due("another goal", x.fewest(0), 3);
         Edges.due("nothing was wrong", x.wrong(), Edges.NONE);
+        FrogsChangeSides other = Edges.led("=>o.");
+        Edges.due("it does not win", other.wins(0), 0);
+        Edges.write(other, ">o.;a");
+        Edges.due("the same row with a sign", other.brook(), 3);
+        Edges.due("it wins", other.wins(0), 1);
         FrogsChangeSides same = Edges.led("=>.< 01 20 12 =>.<");
         Edges.row(same, ">.<");
         Edges.due("the same once more: nothing is kept", same.count(2), 0);

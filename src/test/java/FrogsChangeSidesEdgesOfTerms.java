@@ -31,6 +31,7 @@ public final class FrogsChangeSidesEdgesOfTerms {
         play();
         image();
         refusalsInOrder();
+        changeNothing();
         withoutBrook();
         Edges.end();
     }
@@ -668,7 +669,7 @@ public final class FrogsChangeSidesEdgesOfTerms {
     }
 
     private static void refusalsInOrder() {
-        Edges.sentence(0, "Refusals, of several the first as told by each call; they change nothing");
+        Edges.sentence(0, "Refusals, of several the first as told by each call");
         String full = "=>.< +>.<>.<>.<>.<>.";
         Edges.refused(full, "letters: OUTSIDE, FULL", Edges.OUTSIDE, x -> x.letters(127));
         Edges.refused(full, "letters: FULL", Edges.FULL, x -> x.letters(126));
@@ -695,6 +696,69 @@ public final class FrogsChangeSidesEdgesOfTerms {
         Edges.refused("+>.<", "play: OUTSIDE by seed, STATE", Edges.OUTSIDE, x -> x.play(60, -1, 0));
         Edges.refused("+>.<", "play: OUTSIDE by what, STATE", Edges.OUTSIDE, x -> x.play(60, 0, 3));
         Edges.refused("+>.<", "play: STATE", Edges.STATE, x -> x.play(60, 0, 2));
+    }
+
+    /** Whatever is refused, and whatever is but a question, in many states and with many numbers. */
+    private static void changeNothing() {
+        Edges.sentence(0, "they change nothing");
+        String[] states = {"", "+>.<", "+abcdefghijklmn", "=>>>.<<<", Edges.RICH, Edges.SIXTY, Edges.STUCK, Edges.ROUND,
+            "=>.< 01 ! 20 +abcdefghijklmn", "=>.<. ! 01 +.<.>", "=>..;r 01 12 20 ! 01 +>.<;a",
+            "=>.< 01 ! ~ +x", "=>.< 01 20 +x"};
+        for (String steps : states) {
+            nobodyChanges(steps);
+            for (int a : new int[] {Edges.LOW, -1, 0, 1, 2, 3, 6, 7, 10, 61, Edges.HIGH}) {
+                oneNumberChanges(steps, a);
+                for (int b : new int[] {-1, 0, 1, 2, 5, 7, Edges.HIGH}) {
+                    twoNumbersChange(steps, a, b);
+                }
+            }
+            for (long w : new long[] {127, 1L << 8, -1L, Edges.word("abcdefgh"), Edges.word(">"), 128L << 56 | Edges.word(">")}) {
+                ifRefused(steps, "letters(" + w + ")", x -> x.letters(w));
+            }
+        }
+    }
+
+    private static void ifRefused(String steps, String what, Edges.Call call) {
+        if (call.on(Edges.led(steps)) <= Edges.UNKNOWN) {
+            Edges.unchanged(steps, what, call);
+        }
+    }
+
+    private static void nobodyChanges(String steps) {
+        Edges.unchanged(steps, "fault()", x -> x.fault());
+        Edges.unchanged(steps, "moves()", x -> x.moves());
+        Edges.unchanged(steps, "ways()", x -> x.ways());
+        Edges.unchanged(steps, "wrong()", x -> x.wrong());
+        Edges.unchanged(steps, "ends()", x -> x.ends());
+        Edges.unchanged(steps, "soon()", x -> x.soon());
+        Edges.unchanged(steps, "comes()", x -> x.comes());
+        Edges.unchanged(steps, "digest()", x -> x.digest());
+        ifRefused(steps, "brook()", x -> x.brook());
+        ifRefused(steps, "back()", x -> x.back());
+        ifRefused(steps, "image()", x -> x.image());
+        ifRefused(steps, "restore()", x -> x.restore());
+    }
+
+    private static void oneNumberChanges(String steps, int a) {
+        Edges.unchanged(steps, "on(" + a + ")", x -> x.on(a));
+        Edges.unchanged(steps, "frog(" + a + ")", x -> x.frog(a));
+        Edges.unchanged(steps, "fewest(" + a + ")", x -> x.fewest(a));
+        Edges.unchanged(steps, "more(" + a + ")", x -> x.more(a));
+        Edges.unchanged(steps, "off(" + a + ")", x -> x.off(a));
+        Edges.unchanged(steps, "wins(" + a + ")", x -> x.wins(a));
+        Edges.unchanged(steps, "count(" + a + ")", x -> x.count(a));
+        Edges.unchanged(steps, "play(" + a + ", 0, 0)", x -> x.play(a, 0, 0));
+        Edges.unchanged(steps, "play(60, " + a + ", 1)", x -> x.play(60, a, 1));
+        Edges.unchanged(steps, "play(1, 7, " + a + ")", x -> x.play(1, 7, a));
+    }
+
+    private static void twoNumbersChange(String steps, int a, int b) {
+        String numbers = "(" + a + ", " + b + ")";
+        Edges.unchanged(steps, "about" + numbers, x -> x.about(a, b));
+        Edges.unchanged(steps, "as" + numbers, x -> x.as(a, b));
+        Edges.unchanged(steps, "may" + numbers, x -> x.may(a, b));
+        Edges.unchanged(steps, "by" + numbers, x -> x.by(a, b));
+        ifRefused(steps, "move" + numbers, x -> x.move(a, b));
     }
 
     private static void withoutBrook() {
