@@ -164,6 +164,14 @@ public final class FrogsChangeSidesEdgesOfCalls {
         Edges.due("letters", x.count(8), 0);
         Edges.due("fault", x.fault(), 0);
         Edges.due("no brook is left on it", x.brook(), Edges.STATE);
+        for (String longer : new String[] {">.<;abrt", ">.<;xxxxxx", ">.<.<.<;abrt", "xxxxxxxxxxxxxx"}) {
+            for (String shorter : new String[] {"+>.<;a", "+>.<;", "+>.<", "+>."}) {
+                FrogsChangeSides z = Edges.led("+" + longer);
+                Edges.due("of " + longer, z.blank(), longer.length());
+                Edges.write(z, shorter.substring(1));
+                Edges.alike("letters that were there", z, Edges.led(shorter));
+            }
+        }
         FrogsChangeSides y = Edges.led(Edges.RICH);
         Edges.due("of a rich one", y.blank(), 5);
         Edges.alike("blank()", y, Edges.led(Edges.RICH.substring(0, Edges.RICH.indexOf(" +"))));
@@ -247,6 +255,10 @@ public final class FrogsChangeSidesEdgesOfCalls {
         Edges.due("letters", x.count(8), 0);
         Edges.due("brook() again", x.brook(), Edges.STATE);
         Edges.row(x, "g...");
+        FrogsChangeSides signs = Edges.led("=>.<;abrt =>.<;a");
+        for (int what = 4; what <= 7; what++) {
+            Edges.due("signs of the second alone, " + what, signs.count(what), what == 4 ? 1 : 0);
+        }
         Edges.due("room for eight", x.letters(Edges.word("abcdefgh")), 8);
         Edges.due("and six", x.letters(Edges.word("abcdef")), 14);
 
