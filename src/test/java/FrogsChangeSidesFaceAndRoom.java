@@ -3,16 +3,14 @@ import java.lang.reflect.Constructor;
 import java.lang.reflect.Field;
 import java.lang.reflect.Method;
 import java.lang.reflect.Modifier;
-import java.nio.file.Files;
-import java.nio.file.Path;
 import java.util.HashSet;
 import java.util.Map;
 import java.util.Set;
+import java.util.TreeMap;
 import java.util.TreeSet;
 
-/** The face is the document's and no more, the class keeps to what LANGUAGE.md lists, and calls make no objects. */
+/** The face is the document's and no more, and calls make no objects. */
 public final class FrogsChangeSidesFaceAndRoom {
-    private static final String SOURCE = "src/main/java/FrogsChangeSides.java";
     private static final Set<String> FACE = Set.of("long letters:int", ":blank:int", ":fault:int", ":brook:int",
         "int on:int", "int frog:int", "int,int about:int", "int,int as:int", "int,int may:int", ":moves:int",
         "int,int move:int", ":back:int", "int fewest:int", ":ways:int", ":wrong:int", ":ends:int", ":soon:int",
@@ -25,7 +23,6 @@ public final class FrogsChangeSidesFaceAndRoom {
 
     public static void main(String[] args) throws Exception {
         face();
-        source();
         room();
         System.out.println(wrong == 0 ? "face and room are as due" : wrong + " faults");
         if (wrong != 0) {
@@ -59,11 +56,15 @@ public final class FrogsChangeSidesFaceAndRoom {
             hold(Modifier.isPublic(m.getModifiers()) && !Modifier.isStatic(m.getModifiers()), "public " + m);
         }
         hold(found.equals(FACE), "the methods of the face: " + found);
+        Map<String, Integer> constants = new TreeMap<>();
         for (Field f : c.getDeclaredFields()) {
             if (!Modifier.isPrivate(f.getModifiers())) {
-                hold(CONSTANTS.containsKey(f.getName()) && CONSTANTS.get(f.getName()) == f.getInt(null), "constant " + f);
+                int as = f.getModifiers();
+                hold(Modifier.isPublic(as) && Modifier.isStatic(as) && Modifier.isFinal(as), "public static final " + f);
+                constants.put(f.getName(), f.getType() == int.class ? f.getInt(null) : 0);
             }
         }
+        hold(constants.equals(CONSTANTS), "the constants of the face: " + constants);
         Constructor<?>[] made = c.getDeclaredConstructors();
         hold(made.length == 1 && made[0].getParameterCount() == 0 && Modifier.isPublic(made[0].getModifiers()), "constructor");
         namesInside(c, names);
@@ -82,16 +83,6 @@ public final class FrogsChangeSidesFaceAndRoom {
         for (Method m : c.getDeclaredMethods()) {
             hold(!Modifier.isPrivate(m.getModifiers()) || !names.contains(m.getName()), "a name of the face: " + m);
         }
-    }
-
-    private static void source() throws Exception {
-        String text = Files.readString(Path.of(SOURCE));
-        String[] never = {"try", "catch", "finally", "->", "::", "synchronized", "assert ", "package ", "Random", "System.",
-            "Thread", "double", "float", "Exact"};
-        for (String word : never) {
-            hold(!text.contains(word), "the source is without " + word);
-        }
-        hold(text.replace("import java.util.Arrays;", "").indexOf("import") < 0, "no import but Arrays");
     }
 
     /** All calls of a run share one room, so only the constructor may make objects, and few. */
